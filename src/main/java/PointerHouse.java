@@ -911,8 +911,8 @@ public final class PointerHouse {
         }
 
         private boolean seesOperator() {
-            return sees(PLUS) || sees(MINUS) || sees(STAR) || sees(SLASH) || sees(PERCENT) || sees(EQUAL)
-                    || sees(LESS);
+            int kind = stopped ? END : source.kindAt(at);
+            return kind >= PLUS && kind <= PERCENT || kind == EQUAL || kind == LESS;
         }
 
         private int parseTerm(int depth) {
@@ -1058,17 +1058,21 @@ public final class PointerHouse {
         /* A text of 4000 characters can't ask for more than three TYPES a character. */
         private static final int SLOTS = 16384;
         private static final long SPREAD = 0x9E3779B97F4A7C15L;
+        private static final int BUILD_BIT = 24;
 
         private final long[] slots = new long[SLOTS];
+        private long build;
 
+        /** What an earlier build has kept counts as free from now on. */
         void clear() {
-            Arrays.fill(slots, 0);
+            build++;
         }
 
-        private int keep(long key) {
-            int slot = (int) (key * SPREAD >>> 50);
+        private int keep(long told) {
+            long key = told | build << BUILD_BIT;
+            int slot = (int) (told * SPREAD >>> 50);
             for (int i = 0; i < SLOTS; i++) {
-                if (slots[slot] == 0) {
+                if (slots[slot] >>> BUILD_BIT != build) {
                     slots[slot] = key;
                 }
                 if (slots[slot] == key) {
@@ -1080,40 +1084,40 @@ public final class PointerHouse {
         }
 
         int pointer(int kind, int region, int behind) {
-            return keep(kind | (long) region << 3 | (long) behind << 7);
+            return keep(kind | region << 3 | behind << 7);
         }
 
         int thing(int item, int regions) {
-            return keep(THING | (long) item << 3 | (long) regions << 8);
+            return keep(THING | item << 3 | regions << 8);
         }
 
-        private long keyOf(int type) {
-            return type < FIXED || type >= SLOTS + FIXED ? 0 : slots[type - FIXED];
+        private int keyOf(int type) {
+            return type < FIXED || type >= SLOTS + FIXED ? 0 : (int) slots[type - FIXED] & (1 << BUILD_BIT) - 1;
         }
 
         int kindOf(int type) {
-            return type < FIXED ? type : (int) (keyOf(type) & 7);
+            return type < FIXED ? type : keyOf(type) & 7;
         }
 
         /** Of a pointer or row. */
         int regionOf(int type) {
-            return (int) (keyOf(type) >> 3 & 15);
+            return keyOf(type) >> 3 & 15;
         }
 
         /** Of a pointer or row. */
         int behind(int type) {
-            return (int) (keyOf(type) >> 7);
+            return keyOf(type) >> 7;
         }
 
         /** The struct or union behind a pointer; NONE without one. */
         int titleBehind(int type) {
-            long thing = isPointed(type) ? keyOf(behind(type)) : 0;
-            return (thing & 7) == THING ? (int) (thing >> 3 & 31) : NONE;
+            int thing = isPointed(type) ? keyOf(behind(type)) : 0;
+            return (thing & 7) == THING ? thing >> 3 & 31 : NONE;
         }
 
         /** The REGIONS of a struct or union behind a pointer. */
         int regionsBehind(int type) {
-            return (int) (keyOf(behind(type)) >> 8 & 4095);
+            return keyOf(behind(type)) >> 8 & 4095;
         }
 
         boolean isPointed(int type) {
@@ -1133,8 +1137,8 @@ public final class PointerHouse {
                 return type;
             }
             if (kind == THING) {
-                long key = keyOf(type);
-                return thing((int) (key >> 3 & 31), toldAll((int) (key >> 8 & 4095), regions));
+                int key = keyOf(type);
+                return thing(key >> 3 & 31, toldAll(key >> 8 & 4095, regions));
             }
             return pointer(kind, toldOne(regionOf(type), regions), told(behind(type), regions, depth + 1));
         }
@@ -1562,9 +1566,6 @@ public final class PointerHouse {
 
         /** What the EXPR gives. */
         int check(int first, int depth) {
-            if (first == 0 || depth > MAX_DEPTH) {
-                return Types.NOTHING;
-            }
             int gives = checkTerm(first, 0, depth);
             int term = source.next[first];
             for (int i = 0; term != 0 && i < MAX_TEXT; i++) {
@@ -1665,6 +1666,9 @@ public final class PointerHouse {
 
         /** A TERM up to one of what follows its PRIMARY (0: all of it). */
         private int checkTerm(int term, int stop, int depth) {
+            if (term == 0 || depth > MAX_DEPTH) {
+                return Types.NOTHING;
+            }
             int gives = checkPrimary(term, depth);
             int begin = source.beginOf(term);
             int link = source.tail[term];
@@ -2946,11 +2950,17 @@ public final class PointerHouse {
                     pagesOf[region]++;
                     nextOf[region] = p * wordsAPage;
                     leftOf[region] = wordsAPage;
-                    Arrays.fill(given, p * wordsAPage, (p + 1) * wordsAPage, false);
+                    forgetWords(p * wordsAPage);
                     return true;
                 }
             }
             return false;
+        }
+
+        private void forgetWords(int from) {
+            for (int at = from; at < from + wordsAPage && at < given.length; at++) {
+                given[at] = false;
+            }
         }
 
         int get(int at) {
