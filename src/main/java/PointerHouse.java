@@ -1058,21 +1058,21 @@ public final class PointerHouse {
         /* A text of 4000 characters can't ask for more than three TYPES a character. */
         private static final int SLOTS = 16384;
         private static final long SPREAD = 0x9E3779B97F4A7C15L;
-        private static final int BUILD_BIT = 24;
+        private static final int ERA_BIT = 24;
 
         private final long[] slots = new long[SLOTS];
-        private long build;
+        private long era;
 
         /** What an earlier build has kept counts as free from now on. */
         void clear() {
-            build++;
+            era++;
         }
 
         private int keep(long told) {
-            long key = told | build << BUILD_BIT;
+            long key = told | era << ERA_BIT;
             int slot = (int) (told * SPREAD >>> 50);
             for (int i = 0; i < SLOTS; i++) {
-                if (slots[slot] >>> BUILD_BIT != build) {
+                if (slots[slot] >>> ERA_BIT != era) {
                     slots[slot] = key;
                 }
                 if (slots[slot] == key) {
@@ -1092,7 +1092,7 @@ public final class PointerHouse {
         }
 
         private int keyOf(int type) {
-            return type < FIXED || type >= SLOTS + FIXED ? 0 : (int) slots[type - FIXED] & (1 << BUILD_BIT) - 1;
+            return type < FIXED || type >= SLOTS + FIXED ? 0 : (int) slots[type - FIXED] & (1 << ERA_BIT) - 1;
         }
 
         int kindOf(int type) {

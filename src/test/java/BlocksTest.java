@@ -196,6 +196,9 @@ public final class BlocksTest {
         House.sound("fun g'a'b(x:@'a int):@'b int where 'a>'b{return x;}fun main(){}");
         House.fault(5, "fun g'a'b(x:@'a int):@'b int where 'b>'a{return #x;}fun main(){}");
         House.sound("fun g'a'b'c(x:@'a int):@'b int where 'a>'c,'c>'b{return x;}fun main(){}");
+        House.sound("fun g'a'b'c(x:@'a int):@'c int where 'b>'c,'a>'b{return x;}fun main(){}");
+        House.sound("fun g'a'b'c(x:@'c int):@'a int where 'c>'b,'b>'a{return x;}fun main(){}");
+        House.fault(5, "fun g'a'b'c(x:@'c int):@'a int where 'a>'b,'b>'c{return #x;}fun main(){}");
     }
 
     private static void givenValues() {
@@ -239,6 +242,10 @@ public final class BlocksTest {
         count(0, "var p:*'H int=null;if (p)==(null){}else{print p^;}");
         count(0, "var p:*'H int=null;if ((p==null)){return;}print p^;");
         count(1, "var p:*'H int=null;if null==p{return;}print p^;");
+        count(1, "var p:*'H int=null;var q:*'H int=null;if p==q{return;}print p^;");
+        count(1, "var p:*'H int=null;if p==null{}print p^;");
+        count(1, "var l:*'H L'H=null;if l.n==null{return;}print 1;");
+        count(2, "var p:*'H int=cell'H(1);var q:*'H int=p;while 1{if 1{p=null;}if 1{}else{q=null;}print p^;print q^;}");
         count(1, "var p:*'H int=null;if p==null==1{return;}print p^;");
         count(0, "var p:*'H int=null;if p==null{p=cell'H(1);}print p^;");
         count(0, "var p:*'H int=null;while p{print p^;p=null;}");

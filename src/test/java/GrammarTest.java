@@ -59,6 +59,7 @@ public final class GrammarTest {
         House.fault(1, "struct A{#};" + MAIN);
         House.fault(1, "struct A{a:int#};" + MAIN);
         House.fault(1, "union U{a#;};" + MAIN);
+        House.fault(1, "struct A{a:#A;};" + MAIN);
         PointerHouse x = new PointerHouse();
         House.due("build of three", 3, House.build(x, "struct A{a:int;};union U{a:int;};" + MAIN));
         House.due("fault(0) without one", 0, x.fault(0));
@@ -195,6 +196,9 @@ public final class GrammarTest {
         House.sound(House.main(House.times(19, "if 1{") + "return;" + House.times(19, "}")));
         House.fault(1, House.main(House.times(19, "if 1{") + "#1;" + House.times(19, "}")));
         House.fault(1, House.main(House.times(19, "if 1{") + "if #1{}" + House.times(19, "}")));
+        House.fault(1, House.main(House.times(19, "if 1{}else{") + "#1;" + House.times(19, "}")));
+        House.fault(1, House.main(House.times(19, "try{}catch{") + "#1;" + House.times(19, "}")));
+        House.fault(1, House.main(House.times(19, "while 1{") + "#1;" + House.times(19, "}")));
         House.fault(1, House.main(House.times(19, "if 1{") + "try#{}catch{}" + House.times(19, "}")));
         House.fault(1, House.main(House.times(19, "if 1{") + "region 'a#{}" + House.times(19, "}")));
         // a call without ARGUMENTS has no EXPR in it

@@ -90,6 +90,12 @@ public final class LimitsTest {
 
     private static void manyBuilds() {
         PointerHouse x = new PointerHouse();
+        String told = "'a'b(x:@'a int):@'b int where 'a>'b,'a>'a,'b>'b{return x;}fun main(){region 'u{f'H'u(cell'H(1));}}";
+        House.due("build with where", 2, House.build(x, "fun f" + told));
+        House.due("build with dead", 3, House.build(x, "fun g'a() dead 'a{}fun f" + told));
+        House.due("build without", 2,
+                House.build(x, "fun f'a'b(){}fun main(){region 'u{f'u'H();}}"));
+        House.due("build without", 2, House.build(x, "fun f'a(x:@'a int):int{return x^;}fun main(){}"));
         for (int i = 0; i < 100; i++) {
             House.due("build " + i, i % 2 == 0 ? 2 : -1,
                     House.build(x, i % 2 == 0 ? "struct A{a:*'H A;};fun main(){print 1;}" : "fun main(){print (1;}"));

@@ -161,6 +161,7 @@ public final class RunTest {
         House.prints(House.main("var c:@'H @'H int=cell'H(cell'H(4));print c^^;c^^=5;c^=cell'H(c^^+1);print c^^;"), DONE, 4, 6);
         House.prints(House.main("var c:@'H ?'H int=cell'H(row'H(3,8)+1);print size(c^);print c^[1];c^[0]=2;print c^[0];"),
                 DONE, 3, 8, 2);
+        House.prints(TITLES + House.main("var p:*'H L'H=null;if 1{p=new'H L'H{6,null};}print 1+nn(p).v;"), DONE, 7);
         House.prints(TITLES + House.main("var p:*'H L'H=null;if p{print 1;}else{print 2;}p=new'H L'H{0,null};if p{print 3;}"
                 + "while p{p=p.n;print 4;}"), DONE, 2, 3, 4);
     }
@@ -177,6 +178,8 @@ public final class RunTest {
         House.prints(House.main("var f:?'H ?'H int=row'H(2,row'H(2,5));f[0][1]=6;print f[1][1];f[1]=row'H(1,3);print f[1][0];"
                 + "print size(f[0]);"), DONE, 6, 3, 2);
         House.prints(House.main("region 'a{var f:?'a int=row'a(5,1);close 'a;print size(f);}"), DONE, 5);
+        House.prints(House.main("var f:?'H int=row'H(3,1);var a:@'H int=&f[1];a^=5;print f[0]*100+(f[1]*10)+f[2];print a==&f[1];"
+                + "print a==&f[2];print 10+size(f)*2;"), DONE, 151, 1, 0, 26);
     }
 
     private static void unions() {
@@ -236,6 +239,13 @@ public final class RunTest {
                 + House.main("var g:?'H int=pair(3,row'H(2,0),4);print g[0];print g[0-1];print size(g);"), DONE, 4, 3, 2);
         House.prints("fun mk'r(n:int):@'r int{return cell'r(n);}fun two'a'b():int{return mk'a(1)^+mk'b(2)^;}"
                 + House.main("region 'x{region 'y{print two'x'y()+two'y'H();}}"), DONE, 6);
+        PointerHouse x = House.sound("fun t'a'b'c(){cell'c(1);cell'c(2);cell'b(3);}"
+                + House.main("region 'x{region 'y{t'H'x'y();print 1;}}"));
+        x.start(9, 4);
+        x.run(6);
+        House.due("objects in 'H", 0, x.region(0, 2));
+        House.due("objects in the second told", 1, x.region(1, 2));
+        House.due("objects in the third told", 2, x.region(2, 2));
         House.prints("fun f(){if 0{return;}}" + House.main("f();print 1;return;print 2;"), DONE, 1);
         House.prints("fun a(n:int):int{if n==0{return 7;}return b(n-1);}fun b(n:int):int{return a(n);}" + House.main("print a(19);"), DONE, 7);
     }
