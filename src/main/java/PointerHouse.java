@@ -343,14 +343,8 @@ public final class PointerHouse {
             }
             tokenKind[tokens] = END;
             tokenStart[tokens] = length;
-            Arrays.fill(kind, 0, nodes, 0);
-            Arrays.fill(next, 0, nodes, 0);
-            Arrays.fill(peer, 0, nodes, 0);
-            Arrays.fill(op, 0, nodes, 0);
-            Arrays.fill(left, 0, nodes, 0);
-            Arrays.fill(right, 0, nodes, 0);
-            Arrays.fill(tail, 0, nodes, 0);
-            nodes = 1;
+            nodes = 0;
+            addNode(END, 0);
         }
 
         private int scanToken(int at) {
@@ -464,6 +458,12 @@ public final class PointerHouse {
             }
             kind[nodes] = nodeKind;
             tok[nodes] = token;
+            next[nodes] = 0;
+            peer[nodes] = 0;
+            op[nodes] = 0;
+            left[nodes] = 0;
+            right[nodes] = 0;
+            tail[nodes] = 0;
             nodes++;
             return nodes - 1;
         }
