@@ -2,6 +2,8 @@
 final class House {
     private static int wrong = 0;
     private static int asked = 0;
+    private static int askedBefore = 0;
+    private static String sentence = "";
 
     private House() {
     }
@@ -10,8 +12,18 @@ final class House {
         asked++;
         if (got != want) {
             wrong++;
-            System.out.println(what + " answered " + got + ", due is " + want);
+            System.out.println(what + " answered " + got + ", due is " + want + (sentence.isEmpty() ? "" : " by: " + sentence));
         }
+    }
+
+    /** What follows tests this sentence of the document; the one before must have been tested by something. */
+    static void sentence(String words) {
+        if (!sentence.isEmpty() && asked == askedBefore) {
+            wrong++;
+            System.out.println("nothing was asked for: " + sentence);
+        }
+        sentence = words;
+        askedBefore = asked;
     }
 
     static void due(String what, boolean want, boolean got) {
@@ -20,6 +32,7 @@ final class House {
 
     /** Ends the test; the exit code is 1 if an answer was wrong. */
     static void finish() {
+        sentence("");
         System.out.println(asked + " answers, " + wrong + " wrong");
         if (wrong != 0 || asked == 0) {
             System.exit(1);
@@ -64,6 +77,13 @@ final class House {
         due("start of " + text, false, x.start(4, 4));
     }
 
+    /** The text has no FAULT 1; it may have another one. */
+    static void stands(String text) {
+        PointerHouse x = new PointerHouse();
+        build(x, text);
+        due("whether FAULT 1 (at " + x.fault(1) + ") is there in " + text, false, x.fault(0) == 1);
+    }
+
     /** The text has no FAULT; the program that it becomes. */
     static PointerHouse sound(String text) {
         PointerHouse x = new PointerHouse();
@@ -72,6 +92,20 @@ final class House {
             due("fault " + x.fault(0) + " at " + x.fault(1) + " of " + text + "; build", 1, items);
         } else {
             due("build of " + text, items, items);
+        }
+        return x;
+    }
+
+    /** As sound, started in 64 pages of 64 words. */
+    static PointerHouse started(String text, int... inputs) {
+        return startedIn(text, 64, 64, inputs);
+    }
+
+    static PointerHouse startedIn(String text, int pages, int words, int... inputs) {
+        PointerHouse x = sound(text);
+        due("start of " + text, true, x.start(pages, words));
+        for (int v : inputs) {
+            x.input(v);
         }
         return x;
     }
@@ -87,11 +121,7 @@ final class House {
 
     /** Starts the text in pages of words, with inputs, and runs it to its end. */
     static PointerHouse ran(String text, int pages, int words, int... inputs) {
-        PointerHouse x = sound(text);
-        due("start of " + text, true, x.start(pages, words));
-        for (int v : inputs) {
-            x.input(v);
-        }
+        PointerHouse x = startedIn(text, pages, words, inputs);
         for (int i = 0; i < 400 && x.state(0) == 1; i++) {
             x.run(500);
         }

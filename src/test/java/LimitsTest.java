@@ -96,7 +96,7 @@ public final class LimitsTest {
         House.due("build without", 2,
                 House.build(x, "fun f'a'b(){}fun main(){region 'u{f'u'H();}}"));
         House.due("build without", 2, House.build(x, "fun f'a(x:@'a int):int{return x^;}fun main(){}"));
-        for (int i = 0; i < 100; i++) {
+        for (int i = 0; i < 60; i++) {
             House.due("build " + i, i % 2 == 0 ? 2 : -1,
                     House.build(x, i % 2 == 0 ? "struct A{a:*'H A;};fun main(){print 1;}" : "fun main(){print (1;}"));
             House.due("start " + i, i % 2 == 0, x.start(1, 4));
@@ -111,7 +111,7 @@ public final class LimitsTest {
             "union U{a:int;b:*'H U;};fun main(){var u:@'H U=new'H U.a(1);while 1{if u is a{u.b=u;}else{u.a=2;}print u.a;}}",
             "fun main(){print x;}", "fun main(){", "",
         };
-        for (int seed = 1; seed <= 20; seed++) {
+        for (int seed = 1; seed <= 40; seed++) {
             House.due("answers of the calls of seed " + seed, answers(texts, seed), answers(texts, seed));
         }
     }
@@ -120,7 +120,7 @@ public final class LimitsTest {
         Random random = new Random(seed);
         PointerHouse x = new PointerHouse();
         long all = 0;
-        for (int i = 0; i < 500; i++) {
+        for (int i = 0; i < 300; i++) {
             all = all * 31 + answer(x, texts, random);
         }
         return all;
