@@ -447,7 +447,7 @@ public final class ExprBoundsTest {
         bad(3, "yy^=#zz;");
         bad(3, "#yy^=1;");
         for (String other : new String[] {"1", "null", "read", "n()", "zz()", "cell'z(1)", "yy+1", "nn(yy)", "size(yy)", "&yy.v", "yy is v", "yy.v is w",
-            "yy==null", "caught", "row'z(1,1)"}) {
+            "yy==null", "caught", "row'z(1,1)", "yy.v+1", "yy[0]+1", "yy^+1", "yy.v==zz.v", "1+yy.v"}) {
             bad(4, "#" + other + "=1;");
             bad(4, "(#" + other + ")=1;");
             bad(3, other + "=#xx;");

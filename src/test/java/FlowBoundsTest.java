@@ -18,6 +18,7 @@ public final class FlowBoundsTest {
         knownByVar();
         knownByIf();
         knownByNull();
+        knownByItself();
         whileForgets();
         whileLive();
         behindWhile();
@@ -299,6 +300,30 @@ public final class FlowBoundsTest {
         nulls(2, "var l:*'H L'H=null;if l.n==null{return;}l.v;");
     }
 
+    private static void knownByItself() {
+        House.sentence("(it is KNOWN, and no other VAR)");
+        String v = "var a:*'H int=null;var b:*'H int=null;var c:*'H int=null;var d:int=1;";
+        String use = "a^+b^+c^;";
+        for (String e : new String[] {"1", "d", "d==1", "a==b", "null==a", "null==null", "cell'H(1)", "cell'H(1)==null", "a==null==0", "nn(cell'H(a))"}) {
+            nulls(3, v + "if " + e + "{" + use + "}");
+            nulls(3, v + "if " + e + "{}else{" + use + "}");
+            nulls(3, v + "if " + e + "{}" + use);
+            nulls(3, v + "if " + e + "{return;}" + use);
+            nulls(3, v + "while " + e + "{" + use + "}");
+            nulls(3, v + "while " + e + "{}" + use);
+        }
+        for (String name : new String[] {"a", "b", "c"}) {
+            nulls(2, v + "if " + name + "{" + use + "}");
+            nulls(3, v + "if " + name + "{}else{" + use + "}");
+            nulls(2, v + "if " + name + "==null{}else{" + use + "}");
+            nulls(3, v + "if " + name + "==null{" + use + "}");
+            nulls(2, v + "if " + name + "==null{return;}" + use);
+            nulls(2, v + "while " + name + "{" + use + "}");
+            nulls(2, v + "while " + name + "==null{}" + use);
+            nulls(2, v + name + "=cell'H(1);" + use);
+        }
+    }
+
     private static void whileForgets() {
         House.sentence("while E: ahead of it no VAR is KNOWN to which its BLOCK has a NAME = (at any depth)");
         String p = "var p:*'H int=cell'H(1);";
@@ -312,6 +337,15 @@ public final class FlowBoundsTest {
             nulls(0, p + "while p^{" + block.replace("~", "p^=2;") + "}");
             nulls(0, p + "while p^{" + block.replace("~", "var q:*'H int=null;q=p;") + "}");
         }
+        // all of them, in whatever order they are given
+        String q = p + "var q:*'H int=cell'H(2);var r:*'H int=cell'H(3);";
+        nulls(2, q + "while p^+q^+r^{p=null;q=null;}");
+        nulls(2, q + "while p^+q^+r^{q=null;p=null;}");
+        nulls(2, q + "while p^+q^+r^{p=null;if 1{q=null;}}");
+        nulls(2, q + "while p^+q^+r^{if 1{q=null;}p=null;}");
+        nulls(3, q + "while p^+q^+r^{if 1{q=null;}else{r=null;}1;p=null;2;}");
+        nulls(3, q + "while p^+q^+r^{try{q=null;}catch{r=null;}while 1{p=null;}region 'a{}}");
+        nulls(3, q + "try{if 1{q=null;}p=null;region 'a{r=null;}}catch{p^+q^+r^;}");
         // just those VARS
         nulls(1, p + "var q:*'H int=cell'H(1);while p^+q^{q=null;}p^;");
         // what is given in E's BLOCK is KNOWN there

@@ -11,6 +11,7 @@ public final class FullBoundsTest {
         allTitles();
         deepTypes();
         manyTypes();
+        typesStay();
         twentyVars();
         twentyRows();
         varsOver();
@@ -220,6 +221,30 @@ public final class FullBoundsTest {
         for (int k = 0; k < x.world(4); k++) {
             House.due("printed(" + k + ")", 7, x.printed(k));
         }
+    }
+
+    private static void typesStay() {
+        House.sentence("the field's TYPE (is as told, however many others there are)");
+        String signs = "@*?";
+        StringBuilder heads = new StringBuilder("fun f'a'b'c():*'a *'b *'c *'b *'a int{return null;}");
+        StringBuilder uses = new StringBuilder();
+        for (int i = 0; i < 64; i++) {
+            heads.append(i % 8 == 0 ? "struct S" + i / 8 + "{" : "").append((char) ('a' + i % 8)).append(":");
+            uses.append(i % 8 == 0 ? "if 0{var x:*'H S" + i / 8 + "=null;" : "").append("x.").append((char) ('a' + i % 8));
+            for (int rest = i, k = 0; k < 4; k++, rest /= 3) {
+                heads.append(signs.charAt(rest % 3)).append("'H");
+                uses.append(rest % 3 == 2 ? "[0]" : "^");
+            }
+            heads.append(" int;").append(i % 8 == 7 ? "};" : "");
+            uses.append("+1;").append(i % 8 == 7 ? "}" : "");
+        }
+        StringBuilder text = new StringBuilder(heads + "fun main(){region 'a{region 'b{region 'c{region 'd{region 'e{region 'f{region 'g{region 'h{");
+        String[] names = {"'H", "'a", "'b", "'c", "'d", "'e", "'f", "'g", "'h"};
+        for (int i = 0; text.length() + uses.length() < 3970; i++) {
+            text.append("f").append(names[i * 7 % 9]).append(names[i / 9 % 9]).append(names[(i / 3 + 4) % 9]).append("();");
+        }
+        PointerHouse x = House.ran(text.append("}}}}}}}}").append(uses).append("}").toString(), 4, 4);
+        House.due("state(0)", DONE, x.state(0));
     }
 
     private static void twentyVars() {

@@ -226,6 +226,16 @@ public final class RunBoundsTest {
             House.due("run", -1, x.run(1));
             House.due("input", -1, x.input(1));
         }
+        // whatever the object is, it is not made, and nothing is touched for it
+        for (String made : new String[] {"cell'H(1)", "row'H(2,1)", "new'H L'H{1,null}", "new'H U'H.i(1)", "new'H U'H.f(row'H(0,1))", "cell'H(row'H(0,1))"}) {
+            String text = HEADS + House.main("new'H F{1,2,3,4};var i:int=5;i=1+(0*i);" + made + ";");
+            PointerHouse x = House.ran(text, 1, 4);
+            House.due("state(0) of " + made, NO_ROOM, x.state(0));
+            House.due("WORDS behind " + made, 4, x.region(0, 1));
+            House.due("objects behind " + made, made.contains("row'H(0") ? 2 : 1, x.world(5));
+            House.due("world(8) behind " + made, 0, x.world(8));
+            House.due("state(2) of " + made, text.indexOf(made + ";"), x.state(2));
+        }
         // it needs none as long as the last one has room
         House.printsIn(House.main("row'H(3,1);cell'H(1);print 1;"), 1, 4, DONE, 1);
         House.printsIn(House.main("row'H(3,1);row'H(2,1);print 1;"), 1, 4, NO_ROOM);
