@@ -8,6 +8,7 @@ public final class LimitsTest {
         manyRegions();
         deepStack();
         manyBuilds();
+        allCalls();
         anyCalls();
         House.finish();
     }
@@ -101,6 +102,24 @@ public final class LimitsTest {
                     House.build(x, i % 2 == 0 ? "struct A{a:*'H A;};fun main(){print 1;}" : "fun main(){print (1;}"));
             House.due("start " + i, i % 2 == 0, x.start(1, 4));
         }
+    }
+
+    /** An object answers as it must up to its 512th call. */
+    private static void allCalls() {
+        String text = "fun main(){var i:int=0;while 1{i=i+1;print i;}}";
+        PointerHouse x = new PointerHouse();
+        House.build(x, text);
+        int calls = (text.length() + 19) / 20 + 2;
+        House.due("start", true, x.start(1, 4));
+        calls++;
+        int steps = 0;
+        while (calls < 510) {
+            House.due("run, call " + calls, 500, x.run(500));
+            steps += 500;
+            calls++;
+        }
+        House.due("steps, call 511", steps, x.world(0));
+        House.due("numbers, call 512", (steps - 1) / 3, x.world(4));
     }
 
     /** No call throws, whatever comes; and the same calls give the same answers. */
