@@ -618,6 +618,8 @@ public final class PointerHouse {
         private final Items items;
         private final Code code;
         private int at;
+        /* The kind of the token at hand; END once it has stopped. */
+        private int look;
         private boolean stopped;
         private int vars;
         private int regionSteps;
@@ -630,44 +632,54 @@ public final class PointerHouse {
 
         void parse() {
             at = 0;
+            look = source.kindAt(at);
             stopped = false;
             items.count = 0;
-            for (int i = 0; i <= MAX_ITEMS && !stopped && (i == 0 || !sees(END)); i++) {
-                parseItem(i);
+            for (int i = 0; i <= MAX_ITEMS && !stopped && (i == 0 || look != END); i++) {
+                parseHead(i);
+                if (!stopped && items.kind[i] == FUN) {
+                    parseFun(i);
+                } else if (!stopped) {
+                    parseFields(i);
+                }
             }
         }
 
-        private boolean sees(int kind) {
-            return !stopped && source.kindAt(at) == kind;
+        private void advance() {
+            at++;
+            look = stopped ? END : source.kindAt(at);
         }
 
         private boolean accept(int kind) {
-            if (!sees(kind)) {
+            if (look != kind) {
                 return false;
             }
-            at++;
+            advance();
             return true;
         }
 
         private void need(int kind) {
-            if (!accept(kind)) {
+            if (look == kind) {
+                advance();
+            } else {
                 stop();
             }
         }
 
         private void stop() {
             stopped = true;
+            look = END;
             code.note(1, source.startOf(at));
         }
 
-        private void parseItem(int item) {
-            boolean fun = sees(FUN);
-            if (item >= MAX_ITEMS || !fun && !sees(STRUCT) && !sees(UNION)) {
+        private void parseHead(int item) {
+            boolean fun = look == FUN;
+            if (item >= MAX_ITEMS || !fun && look != STRUCT && look != UNION) {
                 stop();
                 return;
             }
-            items.kind[item] = source.kindAt(at);
-            at++;
+            items.kind[item] = look;
+            advance();
             items.nameTok[item] = at;
             items.name[item] = source.nameAt(at);
             need(fun ? NAME : TITLE);
@@ -677,16 +689,12 @@ public final class PointerHouse {
             items.deadTok[item] = 0;
             items.whereTok[item] = 0;
             items.count = item + 1;
-            if (fun) {
-                parseFun(item);
-            } else {
-                parseFields(item);
-            }
         }
 
         private int parseRegions(int most) {
             int count = 0;
-            while (count < most && accept(REGION)) {
+            while (count < most && look == REGION) {
+                advance();
                 count++;
             }
             return count;
@@ -694,7 +702,7 @@ public final class PointerHouse {
 
         private void parseFields(int item) {
             need(BRACE);
-            for (int k = 0; k <= MAX_PARTS && !stopped && (k == 0 || !sees(BRACE_END)); k++) {
+            for (int k = 0; k <= MAX_PARTS && !stopped && (k == 0 || look != BRACE_END); k++) {
                 if (k == MAX_PARTS) {
                     stop();
                 }
@@ -735,7 +743,7 @@ public final class PointerHouse {
         }
 
         private void parseParameters(int item) {
-            boolean more = !sees(PAREN_END);
+            boolean more = look != PAREN_END;
             for (int k = 0; k <= MAX_PARAMETERS && more; k++) {
                 if (k == MAX_PARAMETERS) {
                     stop();
@@ -784,7 +792,7 @@ public final class PointerHouse {
             need(BRACE);
             int first = 0;
             int last = 0;
-            for (int i = 0; i < MAX_TEXT && !stopped && !sees(BRACE_END); i++) {
+            for (int i = 0; i < MAX_TEXT && !stopped && look != BRACE_END; i++) {
                 int step = parseStep(depth);
                 if (last == 0) {
                     first = step;
@@ -798,7 +806,7 @@ public final class PointerHouse {
         }
 
         private int parseStep(int depth) {
-            int kind = source.kindAt(at);
+            int kind = look;
             switch (kind) {
                 case VAR:
                     return parseVar(depth);
@@ -821,7 +829,7 @@ public final class PointerHouse {
 
         private int parseVar(int depth) {
             int step = source.addNode(VAR, at);
-            at++;
+            advance();
             if (vars == MAX_VARS) {
                 stop();
             }
@@ -838,7 +846,7 @@ public final class PointerHouse {
 
         private int parseChoice(int kind, int depth) {
             int step = source.addNode(kind, at);
-            at++;
+            advance();
             source.left[step] = parseExpr(depth + 1);
             source.right[step] = parseBlock(depth + 1);
             if (kind == IF && accept(ELSE)) {
@@ -852,7 +860,7 @@ public final class PointerHouse {
                 stop();
             }
             int step = source.addNode(kind, at);
-            at++;
+            advance();
             need(REGION);
             if (kind == REGION_STEP) {
                 regionSteps++;
@@ -865,7 +873,7 @@ public final class PointerHouse {
 
         private int parseTry(int depth) {
             int step = source.addNode(TRY, at);
-            at++;
+            advance();
             source.right[step] = parseBlock(depth + 1);
             need(CATCH);
             source.tail[step] = parseBlock(depth + 1);
@@ -874,8 +882,8 @@ public final class PointerHouse {
 
         private int parseWordStep(int kind, int depth) {
             int step = source.addNode(kind, at);
-            at++;
-            if (kind != RETURN || !sees(SEMI)) {
+            advance();
+            if (kind != RETURN || look != SEMI) {
                 source.right[step] = parseExpr(depth + 1);
             }
             need(SEMI);
@@ -900,8 +908,8 @@ public final class PointerHouse {
             int first = parseTerm(depth);
             int last = first;
             for (int i = 0; i < MAX_TEXT && seesOperator(); i++) {
-                int op = source.kindAt(at);
-                at++;
+                int op = look;
+                advance();
                 int term = parseTerm(depth);
                 source.op[term] = op;
                 source.next[last] = term;
@@ -911,8 +919,7 @@ public final class PointerHouse {
         }
 
         private boolean seesOperator() {
-            int kind = stopped ? END : source.kindAt(at);
-            return kind >= PLUS && kind <= PERCENT || kind == EQUAL || kind == LESS;
+            return look >= PLUS && look <= PERCENT || look == EQUAL || look == LESS;
         }
 
         private int parseTerm(int depth) {
@@ -922,7 +929,7 @@ public final class PointerHouse {
             }
             int term = parsePrimary(depth);
             int last = 0;
-            for (int i = 0; i < MAX_TEXT && (sees(DOT) || sees(BRACKET) || sees(CARET) || sees(IS)); i++) {
+            for (int i = 0; i < MAX_TEXT && (look == DOT || look == BRACKET || look == CARET || look == IS); i++) {
                 int link = parseTail(depth);
                 if (last == 0) {
                     source.tail[term] = link;
@@ -935,9 +942,9 @@ public final class PointerHouse {
         }
 
         private int parseTail(int depth) {
-            int kind = source.kindAt(at);
+            int kind = look;
             int link = source.addNode(kind, at);
-            at++;
+            advance();
             if (kind == BRACKET) {
                 source.right[link] = parseExpr(depth + 1);
                 need(BRACKET_END);
@@ -951,18 +958,18 @@ public final class PointerHouse {
             if (stopped) {
                 return 0;
             }
-            int kind = source.kindAt(at);
+            int kind = look;
             int term = source.addNode(kind, at);
             switch (kind) {
                 case NUMBER:
                 case NULL_WORD:
                 case READ:
                 case CAUGHT:
-                    at++;
+                    advance();
                     break;
                 case NAME:
-                    at++;
-                    if (sees(REGION) || sees(PAREN)) {
+                    advance();
+                    if (look == REGION || look == PAREN) {
                         source.kind[term] = CALL;
                         source.left[term] = parseRegions(MAX_RS);
                         need(PAREN);
@@ -970,22 +977,22 @@ public final class PointerHouse {
                     }
                     break;
                 case NEW:
-                    at++;
+                    advance();
                     parseNew(term, depth);
                     break;
                 case CELL:
                 case ROW:
-                    at++;
+                    advance();
                     need(REGION);
                     parseMaking(term, kind, depth);
                     break;
                 case AMPERSAND:
-                    at++;
+                    advance();
                     source.right[term] = parseTerm(depth + 1);
                     break;
                 case NN:
                 case SIZE:
-                    at++;
+                    advance();
                     parseMaking(term, kind, depth);
                     break;
                 case PAREN:
@@ -1121,13 +1128,12 @@ public final class PointerHouse {
         }
 
         boolean isPointed(int type) {
-            int kind = kindOf(type);
+            int kind = keyOf(type) & 7;
             return kind == SOLID || kind == LOOSE;
         }
 
         int wordsOf(int type) {
-            int kind = kindOf(type);
-            return kind == NOTHING ? 0 : kind == ROWS ? 3 : 1;
+            return type == NOTHING ? 0 : (keyOf(type) & 7) == ROWS ? 3 : 1;
         }
 
         /** The TYPE with these REGIONS for the RS of its head. */
@@ -1979,23 +1985,21 @@ public final class PointerHouse {
             return Types.INT;
         }
 
-        /** The PLACE ahead of = ; what comes there is told by its TYPE and the EXPR that gives it. */
-        void checkStore(int place, int gives, int value, int depth) {
+        /** A PLACE ahead of = that is no NAME; what comes there is told by its TYPE and the EXPR that gives it. */
+        void storePlace(int place, int gives, int value, int depth) {
             int target = source.bare(place);
             int last = source.lastTail(target);
-            boolean single = source.next[target] == 0;
-            if (single && last == 0 && source.kind[target] == NAME) {
-                storeVar(source.tok[target], gives, value);
-            } else if (single && last != 0 && source.kind[last] != IS) {
-                int holder = checkTerm(target, last, depth);
-                int type = checkPlace(last, holder, source.beginOf(target), STORE, depth);
-                demandFit(gives, type, value);
-            } else {
+            if (source.next[target] != 0 || last == 0 || source.kind[last] == IS) {
                 code.note(4, source.beginOf(target));
+                return;
             }
+            int holder = checkTerm(target, last, depth);
+            int type = checkPlace(last, holder, source.beginOf(target), STORE, depth);
+            demandFit(gives, type, value);
         }
 
-        private void storeVar(int token, int gives, int value) {
+        /** A NAME ahead of = . */
+        void storeVar(int token, int gives, int value) {
             int v = scope.findVar(source.nameAt(token));
             if (v == NONE) {
                 code.note(3, source.startOf(token));
@@ -2013,10 +2017,17 @@ public final class PointerHouse {
             code.emit(DO_SAVE, scope.slotOf(v), types.wordsOf(type));
         }
 
+        /** The token of the NAME that the EXPR is, and nothing else; NONE without one. */
+        int nameAlone(int first) {
+            int e = source.bare(first);
+            boolean isName = source.kind[e] == NAME && source.tail[e] == 0 && source.next[e] == 0;
+            return isName ? source.tok[e] : NONE;
+        }
+
         /** The VAR that the EXPR is, and nothing else; NONE without one. */
         int varAlone(int first) {
-            int e = source.bare(first);
-            return source.next[e] == 0 ? varOfTerm(e) : NONE;
+            int token = nameAlone(first);
+            return token == NONE ? NONE : scope.findVar(source.nameAt(token));
         }
 
         /** The VAR of NAME == null; NONE if the EXPR is not that. */
@@ -2123,8 +2134,14 @@ public final class PointerHouse {
                     checkTry(step, depth);
                     break;
                 case ASSIGN:
-                    int gives = exprs.check(source.right[step], depth + 1);
-                    exprs.checkStore(source.left[step], gives, source.right[step], depth + 1);
+                    int value = source.right[step];
+                    int gives = exprs.check(value, depth + 1);
+                    int name = exprs.nameAlone(source.left[step]);
+                    if (name == NONE) {
+                        exprs.storePlace(source.left[step], gives, value, depth + 1);
+                    } else {
+                        exprs.storeVar(name, gives, value);
+                    }
                     break;
                 default:
                     code.emit(DO_DROP, types.wordsOf(exprs.check(source.right[step], depth + 1)), 0);
@@ -2930,8 +2947,12 @@ public final class PointerHouse {
             if (region < 0 || region >= regions) {
                 return NONE;
             }
-            if (count > leftOf[region] && !takePage(region)) {
-                return NONE;
+            if (count > leftOf[region]) {
+                int page = freePage();
+                if (page == NONE) {
+                    return NONE;
+                }
+                takePage(region, page);
             }
             int at = nextOf[region];
             nextOf[region] += count;
@@ -2942,22 +2963,23 @@ public final class PointerHouse {
             return at;
         }
 
-        private boolean takePage(int region) {
+        private int freePage() {
             for (int p = 0; p < pages; p++) {
                 if (owner[p] == NONE) {
-                    owner[p] = region;
-                    inUse++;
-                    pagesOf[region]++;
-                    nextOf[region] = p * wordsAPage;
-                    leftOf[region] = wordsAPage;
-                    forgetWords(p * wordsAPage);
-                    return true;
+                    return p;
                 }
             }
-            return false;
+            return NONE;
         }
 
-        private void forgetWords(int from) {
+        /** The words of the page count as never given a value. */
+        private void takePage(int region, int page) {
+            int from = page * wordsAPage;
+            owner[page] = region;
+            inUse++;
+            pagesOf[region]++;
+            nextOf[region] = from;
+            leftOf[region] = wordsAPage;
             for (int at = from; at < from + wordsAPage && at < given.length; at++) {
                 given[at] = false;
             }
